@@ -103,12 +103,7 @@ public final class Polymorphium {
         if (operations.count >= MOST_OPERATIONS) {
             throw new IllegalStateException("there are 6 operations");
         }
-        int number = operations.add(1);
-        Operation made = operations.get(number);
-        if (made != null) {
-            made.become(what);
-        }
-        return number;
+        return operations.addMade(what);
     }
 
     public int answers(int operation, int point, int value)
@@ -429,7 +424,7 @@ public final class Polymorphium {
         }
 
         int digit(int code, int place) {
-            return onPlace(spread(code), place);
+            return at(spreads, code) >> BITS * place & MASK;
         }
 
         /** The most places that a relation has. */
@@ -580,7 +575,7 @@ public final class Polymorphium {
         int answerTuple(int columns, int width) {
             int tuple = 0;
             for (int place = width - 1; place >= 0; place--) {
-                tuple = tuple * numbers.many + answerAt(numbers.onPlace(columns, place));
+                tuple = tuple * numbers.many + at(answers, numbers.onPlace(columns, place));
             }
             return tuple;
         }
@@ -722,9 +717,10 @@ public final class Polymorphium {
             return images;
         }
 
-        /** Those of them that are not in the set. */
+        /** Those of them that are not in the set; a set of all tuples is not worth the choices. */
         int strays(Operation operation, int width, int tuples) {
-            return images(operation, width, tuples) & ~tuples;
+            int all = (1 << numbers.power(width)) - 1;
+            return tuples == all ? 0 : images(operation, width, tuples) & ~tuples;
         }
 
         int closure(Operation operation, int width, int tuples) {
@@ -773,6 +769,16 @@ public final class Polymorphium {
             return number;
         }
 
+        int addMade(int what) {
+            int number = count;
+            count++;
+            Operation added = get(number);
+            if (added != null) {
+                added.become(what);
+            }
+            return number;
+        }
+
         /**
          * The codes of the operations of one place that come from such ones. An operation of one place is the
          * tuple of its answers, and to put another one behind it is to apply that to this tuple.
@@ -801,7 +807,7 @@ public final class Polymorphium {
                 for (int number = 0; number < count; number++) {
                     Operation operation = get(number);
                     if (operation != null && operation.placeCount() <= mostPlaces) {
-                        closure = applier.closure(operation, width, closure);
+                        closure |= applier.strays(operation, width, closure);
                     }
                 }
                 if (closure == before) {
@@ -1289,7 +1295,9 @@ public final class Polymorphium {
         private final Template template;
         private int variables;
         private final int[] relations = new int[MOST_CONSTRAINTS];
+        private final int[] widths = new int[MOST_CONSTRAINTS];
         private final int[] variablesOn = new int[MOST_CONSTRAINTS * MOST_PLACES];
+        private final int[] lowestVariables = new int[MOST_CONSTRAINTS];
         /** By the variable: the values that it may have, and the one that is tried. */
         private final int[] allowed = new int[MOST_VARIABLES];
         private final int[] tried = new int[MOST_VARIABLES];
@@ -1314,18 +1322,24 @@ public final class Polymorphium {
 
         void add(int relation, int first, int second, int third) {
             put(relations, constraints, relation);
+            put(widths, constraints, template.placesOf(relation));
             put(variablesOn, MOST_PLACES * constraints, first);
             put(variablesOn, MOST_PLACES * constraints + 1, second);
             put(variablesOn, MOST_PLACES * constraints + 2, third);
+            put(lowestVariables, constraints, lowestVariable(constraints));
             constraints++;
         }
 
-        int placesOf(int constraint) {
-            return template.placesOf(at(relations, constraint));
+        private int lowestVariable(int constraint) {
+            int lowest = MOST_VARIABLES;
+            for (int place = 0; place < placesOf(constraint); place++) {
+                lowest = Math.min(lowest, variableOn(constraint, place));
+            }
+            return lowest;
         }
 
-        private int tuplesOf(int constraint) {
-            return template.tuplesOf(at(relations, constraint));
+        int placesOf(int constraint) {
+            return at(widths, constraint);
         }
 
         int variableOn(int constraint, int place) {
@@ -1389,19 +1403,11 @@ public final class Polymorphium {
         /** Whether all constraints hold that can be looked at since this variable has a value, and not before. */
         private boolean holdsFrom(int variable) {
             for (int constraint = 0; constraint < constraints; constraint++) {
-                if (lowestVariable(constraint) == variable && !holds(constraint)) {
+                if (at(lowestVariables, constraint) == variable && !holds(constraint)) {
                     return false;
                 }
             }
             return true;
-        }
-
-        private int lowestVariable(int constraint) {
-            int lowest = MOST_VARIABLES;
-            for (int place = 0; place < placesOf(constraint); place++) {
-                lowest = Math.min(lowest, variableOn(constraint, place));
-            }
-            return lowest;
         }
 
         private boolean holds(int constraint) {
@@ -1409,7 +1415,7 @@ public final class Polymorphium {
             for (int place = placesOf(constraint) - 1; place >= 0; place--) {
                 tuple = tuple * numbers.many + at(tried, variableOn(constraint, place));
             }
-            return isIn(tuple, tuplesOf(constraint));
+            return isIn(tuple, template.tuplesOf(at(relations, constraint)));
         }
 
         int countByTryingAll() {
@@ -1450,7 +1456,7 @@ public final class Polymorphium {
 
         /** The tuples that can stand in a constraint. */
         int standing(int constraint) {
-            int tuples = tuplesOf(constraint);
+            int tuples = template.tuplesOf(at(relations, constraint));
             int standing = 0;
             for (int tuple = 0; tuple < numbers.power(placesOf(constraint)); tuple++) {
                 if (isIn(tuple, tuples) && isLikeOnLike(constraint, tuple)) {
@@ -1550,20 +1556,22 @@ public final class Polymorphium {
         }
 
         private void leaveAtFirst() {
-            for (int first = 0; first < instance.variableCount(); first++) {
-                for (int second = 0; second < instance.variableCount(); second++) {
-                    int pairs = (1 << numbers.power(2)) - 1;
-                    for (int constraint = 0; first != second && constraint < instance.constraints; constraint++) {
-                        pairs &= standingPairs(constraint, first, second);
+            for (int i = 0; i < left.length; i++) {
+                left[i] = (1 << numbers.power(2)) - 1;
+            }
+            for (int constraint = 0; constraint < instance.constraints; constraint++) {
+                int standing = instance.standing(constraint);
+                for (int first = 0; first < instance.variableCount(); first++) {
+                    for (int second = 0; second < first; second++) {
+                        leaveStanding(constraint, standing, first, second);
+                        leaveStanding(constraint, standing, second, first);
                     }
-                    setLeft(first, second, pairs);
                 }
             }
         }
 
-        /** The pairs of values with which a tuple can stand in a constraint. */
-        private int standingPairs(int constraint, int first, int second) {
-            int standing = instance.standing(constraint);
+        /** Leaves the pairs of values with which a tuple can stand in a constraint. */
+        private void leaveStanding(int constraint, int standing, int first, int second) {
             int pairs = 0;
             for (int tuple = 0; tuple < numbers.power(instance.placesOf(constraint)); tuple++) {
                 if (isIn(tuple, standing)) {
@@ -1574,7 +1582,7 @@ public final class Polymorphium {
                     }
                 }
             }
-            return pairs;
+            setLeft(first, second, pairs & leftOf(first, second));
         }
 
         /** The values of a variable with which a tuple stands: any, if the variable has no place there. */
