@@ -5,20 +5,7 @@ import java.lang.reflect.Modifier;
 import java.util.TreeSet;
 
 /** At least one test for each promise: ordinary inputs, the edges that the document names, and wrong inputs. */
-public final class PromisesTest {
-    private static final Class<?> ARGUMENT = IllegalArgumentException.class;
-    private static final Class<?> STATE = IllegalStateException.class;
-    private static final Class<?> INDEX = IndexOutOfBoundsException.class;
-    private static final int MIN = Integer.MIN_VALUE;
-    private static final int MAX = Integer.MAX_VALUE;
-
-    private static int checks = 0;
-    private static int wrong = 0;
-
-    private interface Call {
-        Object answer();
-    }
-
+public final class PromisesTest extends Checks {
     public static void main(String[] args) {
         face();
         aNewObject();
@@ -54,110 +41,17 @@ public final class PromisesTest {
         solutions();
         left();
         pairs();
-        System.out.println(checks + " checks, " + wrong + " of them wrong");
-        if (wrong != 0) {
-            System.exit(1);
-        }
+        end();
     }
 
     // ---- helps
 
-    private static void due(String what, Object got, Object want) {
-        checks++;
-        if (!String.valueOf(want).equals(String.valueOf(got))) {
-            wrong++;
-            System.out.println(what + ": " + got + ", due is " + want);
-        }
-    }
-
-    private static Object outcome(Call call) {
-        try {
-            return call.answer();
-        } catch (RuntimeException e) {
-            return e.getClass();
-        }
-    }
-
-    /** The call throws an exception of just this class, and changes nothing that can be seen. */
-    private static void fails(String what, Polymorphium p, Class<?> exception, Call call) {
-        String before = seen(p);
+    /**
+     * The call throws an exception of just this class. That it changes nothing is a matter of EdgesTest, which has a
+     * new house for each such call: an object answers for 512 calls alone.
+     */
+    private static void fails(String what, Class<?> exception, Call call) {
         due(what, outcome(call), exception);
-        due(what + " changes nothing", seen(p), before);
-    }
-
-    /** All that can be asked without changing anything. */
-    private static String seen(Polymorphium p) {
-        StringBuilder seen = new StringBuilder();
-        for (int r = 0; r < 8; r++) {
-            int relation = r;
-            seen.append(outcome(() -> p.ofRelation(relation, 0))).append(' ');
-            seen.append(outcome(() -> p.ofRelation(relation, 1))).append(' ');
-        }
-        for (int f = 0; f < 6; f++) {
-            int operation = f;
-            seen.append(outcome(() -> p.code(operation))).append(' ');
-            seen.append(outcome(() -> p.has(operation, Polymorphium.IDEMPOTENT))).append(' ');
-        }
-        for (int v = 0; v < 6; v++) {
-            int variable = v;
-            seen.append(outcome(() -> p.left(variable))).append(' ');
-            seen.append(outcome(() -> p.pairs(0, variable))).append(' ');
-        }
-        return seen.append(p.fault()).append(' ').append(p.solutions()).append(' ').append(p.kept(1)).toString();
-    }
-
-    private static Polymorphium house(int many) {
-        Polymorphium p = new Polymorphium();
-        p.values(many);
-        return p;
-    }
-
-    /** Makes a relation with some tuples, told by their codes. */
-    private static int relation(Polymorphium p, int places, int... tuples) {
-        int relation = p.relation(places);
-        for (int tuple : tuples) {
-            p.tuple(relation, tuple, true);
-        }
-        return relation;
-    }
-
-    /** Makes an operation that answers for the points, in the order of their codes, as told. */
-    private static int operation(Polymorphium p, int places, String answers) {
-        int operation = p.operation(places);
-        for (int point = 0; point < answers.length(); point++) {
-            p.answers(operation, point, answers.charAt(point) - '0');
-        }
-        return operation;
-    }
-
-    private static void type(Polymorphium p, String text) {
-        for (int i = 0; i < text.length(); i++) {
-            p.type(text.charAt(i), 1);
-        }
-    }
-
-    private static Polymorphium houseWithTape(int many, String text) {
-        Polymorphium p = house(many);
-        type(p, text);
-        return p;
-    }
-
-    /** The set of tuples that a formula defines. */
-    private static int defined(Polymorphium p, String text) {
-        type(p, text);
-        return p.ofRelation(p.define(), 1);
-    }
-
-    private static void fillRelations(Polymorphium p) {
-        for (int i = 0; i < 8; i++) {
-            p.relation(1);
-        }
-    }
-
-    private static void fillOperations(Polymorphium p) {
-        for (int i = 0; i < 6; i++) {
-            p.operation(1);
-        }
     }
 
     // ---- the face
@@ -206,7 +100,8 @@ public final class PromisesTest {
         due("1: an empty tape", p.wipe(), 0);
         due("1: no constraints", p.instance(1), 0);
         due("1: 2 values", p.values(2), 2);
-        due("1: another object is not touched", seen(new Polymorphium()), seen(p));
+        relation(p, 1, 0);
+        due("1: another object is not touched", state(new Polymorphium()), state(house(2)));
     }
 
     private static void values() {
@@ -217,7 +112,7 @@ public final class PromisesTest {
         p.constrain(0, 0, 1, Polymorphium.NONE);
         type(p, "a:");
         for (int many : new int[] {1, 4, 0, -1, MIN, MAX}) {
-            fails("2: values(" + many + ")", p, ARGUMENT, () -> p.values(many));
+            fails("2: values(" + many + ")", ARGUMENT, () -> p.values(many));
         }
         due("2: from 2 to 3", p.values(3), 2);
         due("2: relations are gone", outcome(() -> p.ofRelation(0, 0)), INDEX);
@@ -236,17 +131,17 @@ public final class PromisesTest {
     private static void relation() {
         Polymorphium two = new Polymorphium();
         for (int places : new int[] {0, 4, -1, MIN, MAX}) {
-            fails("3: relation(" + places + ") with 2", two, ARGUMENT, () -> two.relation(places));
+            fails("3: relation(" + places + ") with 2", ARGUMENT, () -> two.relation(places));
         }
         for (int i = 0; i < 8; i++) {
             due("3: number " + i, two.relation(1 + i % 3), i);
             due("3: places of " + i, two.ofRelation(i, 0), 1 + i % 3);
             due("3: no tuples in " + i, two.ofRelation(i, 1), 0);
         }
-        fails("3: a ninth", two, STATE, () -> two.relation(1));
-        fails("3: a ninth of 4 places", two, ARGUMENT, () -> two.relation(4));
+        fails("3: a ninth", STATE, () -> two.relation(1));
+        fails("3: a ninth of 4 places", ARGUMENT, () -> two.relation(4));
         Polymorphium three = house(3);
-        fails("3: relation(3) with 3", three, ARGUMENT, () -> three.relation(3));
+        fails("3: relation(3) with 3", ARGUMENT, () -> three.relation(3));
         due("3: relation(2) with 3", three.relation(2), 0);
         Polymorphium again = new Polymorphium();
         relation(again, 2, 1, 2);
@@ -269,16 +164,16 @@ public final class PromisesTest {
         due("4: one is left", p.ofRelation(1, 1), 1);
         due("4: the other relation", p.ofRelation(0, 1), 0);
         for (int tuple : new int[] {2, -1, 32, 33, MIN, MAX}) {
-            fails("4: tuple " + tuple + " of one place", p, INDEX, () -> p.tuple(0, tuple, true));
+            fails("4: tuple " + tuple + " of one place", INDEX, () -> p.tuple(0, tuple, true));
         }
         for (int number : new int[] {2, -1, 8, MIN, MAX}) {
-            fails("4: relation " + number, p, INDEX, () -> p.tuple(number, 0, true));
+            fails("4: relation " + number, INDEX, () -> p.tuple(number, 0, true));
         }
-        fails("4: tuple 8 of three places", p, INDEX, () -> p.tuple(1, 8, true));
+        fails("4: tuple 8 of three places", INDEX, () -> p.tuple(1, 8, true));
         Polymorphium three = house(3);
         three.relation(2);
         due("4: tuple 8 of two places with 3", three.tuple(0, 8, true), false);
-        fails("4: tuple 9 of two places with 3", three, INDEX, () -> three.tuple(0, 9, true));
+        fails("4: tuple 9 of two places with 3", INDEX, () -> three.tuple(0, 9, true));
     }
 
     private static void ofRelation() {
@@ -288,11 +183,11 @@ public final class PromisesTest {
         due("5: set", p.ofRelation(0, 1), 1 + 4 + 8);
         due("5: how many", p.ofRelation(0, 2), 3);
         for (int what : new int[] {-1, 3, MIN, MAX}) {
-            fails("5: what " + what, p, ARGUMENT, () -> p.ofRelation(0, what));
-            fails("5: no relation, what " + what, p, INDEX, () -> p.ofRelation(1, what));
+            fails("5: what " + what, ARGUMENT, () -> p.ofRelation(0, what));
+            fails("5: no relation, what " + what, INDEX, () -> p.ofRelation(1, what));
         }
-        fails("5: relation -1", p, INDEX, () -> p.ofRelation(-1, 0));
-        fails("5: relation 8", p, INDEX, () -> p.ofRelation(8, 0));
+        fails("5: relation -1", INDEX, () -> p.ofRelation(-1, 0));
+        fails("5: relation 8", INDEX, () -> p.ofRelation(8, 0));
         Polymorphium three = house(3);
         relation(three, 2, 0, 1, 2, 3, 4, 5, 6, 7, 8);
         due("5: all tuples with 3", three.ofRelation(0, 1), 511);
@@ -304,7 +199,7 @@ public final class PromisesTest {
     private static void operation() {
         Polymorphium p = new Polymorphium();
         for (int places : new int[] {0, 4, -1, MIN, MAX}) {
-            fails("6: operation(" + places + ")", p, ARGUMENT, () -> p.operation(places));
+            fails("6: operation(" + places + ")", ARGUMENT, () -> p.operation(places));
         }
         due("6: of one place", p.operation(1) + " " + p.code(0), "0 2");
         due("6: of two places", p.operation(2) + " " + p.code(1), "1 10");
@@ -312,8 +207,8 @@ public final class PromisesTest {
         p.operation(1);
         p.operation(1);
         due("6: the sixth", p.operation(1), 5);
-        fails("6: a seventh", p, STATE, () -> p.operation(1));
-        fails("6: a seventh of 4 places", p, ARGUMENT, () -> p.operation(4));
+        fails("6: a seventh", STATE, () -> p.operation(1));
+        fails("6: a seventh of 4 places", ARGUMENT, () -> p.operation(4));
         p.values(3);
         due("6: of one place with 3", p.operation(1) + " " + p.code(0), "0 " + (3 + 2 * 9));
         due("6: of three places with 3", p.operation(3) + " " + p.code(1), "1 6159136430181");
@@ -327,7 +222,7 @@ public final class PromisesTest {
     private static void make() {
         Polymorphium p = new Polymorphium();
         for (int what : new int[] {-1, 5, MIN, MAX}) {
-            fails("7: make(" + what + ")", p, ARGUMENT, () -> p.make(what));
+            fails("7: make(" + what + ")", ARGUMENT, () -> p.make(what));
         }
         due("7: LEAST", p.make(Polymorphium.LEAST) + " " + p.code(0), "0 8");
         due("7: GREATEST", p.make(Polymorphium.GREATEST) + " " + p.code(1), "1 14");
@@ -335,8 +230,8 @@ public final class PromisesTest {
         due("7: AFFINE", p.make(Polymorphium.AFFINE) + " " + p.code(3), "3 150");
         due("7: CYCLE", p.make(Polymorphium.CYCLE) + " " + p.code(4), "4 1");
         p.make(Polymorphium.LEAST);
-        fails("7: a seventh", p, STATE, () -> p.make(Polymorphium.LEAST));
-        fails("7: a seventh of no kind", p, ARGUMENT, () -> p.make(5));
+        fails("7: a seventh", STATE, () -> p.make(Polymorphium.LEAST));
+        fails("7: a seventh of no kind", ARGUMENT, () -> p.make(5));
         String[] due = {"000011012", "012112222", "000011012011111112012112222", "012201120120012201201120012", "120"};
         for (int what = 0; what < 5; what++) {
             Polymorphium three = house(3);
@@ -360,20 +255,20 @@ public final class PromisesTest {
         due("8: another point", p.answers(0, 2, 1), 0);
         due("8: the code follows", p.code(0), 2 + 4 + 8);
         for (int point : new int[] {4, -1, MIN, MAX}) {
-            fails("8: point " + point, p, INDEX, () -> p.answers(0, point, 0));
-            fails("8: point " + point + " and a wrong value", p, INDEX, () -> p.answers(0, point, 2));
+            fails("8: point " + point, INDEX, () -> p.answers(0, point, 0));
+            fails("8: point " + point + " and a wrong value", INDEX, () -> p.answers(0, point, 2));
         }
         for (int value : new int[] {2, -1, MIN, MAX}) {
-            fails("8: value " + value, p, ARGUMENT, () -> p.answers(0, 0, value));
-            fails("8: no operation, value " + value, p, INDEX, () -> p.answers(1, 0, value));
+            fails("8: value " + value, ARGUMENT, () -> p.answers(0, 0, value));
+            fails("8: no operation, value " + value, INDEX, () -> p.answers(1, 0, value));
         }
-        fails("8: operation -1", p, INDEX, () -> p.answers(-1, 0, 0));
-        fails("8: operation 6", p, INDEX, () -> p.answers(6, 0, 0));
+        fails("8: operation -1", INDEX, () -> p.answers(-1, 0, 0));
+        fails("8: operation 6", INDEX, () -> p.answers(6, 0, 0));
         Polymorphium three = house(3);
         three.operation(3);
         due("8: the last point with 3", three.answers(0, 26, 0), 2);
-        fails("8: point 27", three, INDEX, () -> three.answers(0, 27, 0));
-        fails("8: value 3", three, ARGUMENT, () -> three.answers(0, 0, 3));
+        fails("8: point 27", INDEX, () -> three.answers(0, 27, 0));
+        fails("8: value 3", ARGUMENT, () -> three.answers(0, 0, 3));
     }
 
     private static void code() {
@@ -384,9 +279,9 @@ public final class PromisesTest {
         due("9: 0, 2, 1", p.code(1), 2 * 3 + 9);
         operation(p, 2, "000000001");
         due("9: the last point weighs most", p.code(2), 6561);
-        fails("9: operation 3", p, INDEX, () -> p.code(3));
-        fails("9: operation -1", p, INDEX, () -> p.code(-1));
-        fails("9: operation 6", p, INDEX, () -> p.code(6));
+        fails("9: operation 3", INDEX, () -> p.code(3));
+        fails("9: operation -1", INDEX, () -> p.code(-1));
+        fails("9: operation 6", INDEX, () -> p.code(6));
     }
 
     // ---- Promises 10 to 13
@@ -413,11 +308,11 @@ public final class PromisesTest {
         due("11: the lowest of more", p.breaks(2, 3), 7);
         due("11: CYCLE and one of three", p.breaks(1, 3), 3);
         for (int number : new int[] {4, -1, 8, MIN, MAX}) {
-            fails("10: relation " + number, p, INDEX, () -> p.keeps(0, number));
-            fails("11: relation " + number, p, INDEX, () -> p.breaks(0, number));
+            fails("10: relation " + number, INDEX, () -> p.keeps(0, number));
+            fails("11: relation " + number, INDEX, () -> p.breaks(0, number));
             int operation = number == 4 ? 3 : number;
-            fails("10: operation " + operation, p, INDEX, () -> p.keeps(operation, 0));
-            fails("11: operation " + operation, p, INDEX, () -> p.breaks(operation, 0));
+            fails("10: operation " + operation, INDEX, () -> p.keeps(operation, 0));
+            fails("11: operation " + operation, INDEX, () -> p.breaks(operation, 0));
         }
         Polymorphium three = house(3);
         relation(three, 2, 8);
@@ -510,11 +405,11 @@ public final class PromisesTest {
         Polymorphium p = new Polymorphium();
         p.make(Polymorphium.LEAST);
         for (int identity : new int[] {-1, 5, MIN, MAX}) {
-            fails("12: identity " + identity, p, ARGUMENT, () -> p.has(0, identity));
-            fails("12: no operation, identity " + identity, p, INDEX, () -> p.has(1, identity));
+            fails("12: identity " + identity, ARGUMENT, () -> p.has(0, identity));
+            fails("12: no operation, identity " + identity, INDEX, () -> p.has(1, identity));
         }
-        fails("12: operation -1", p, INDEX, () -> p.has(-1, 0));
-        fails("12: operation 6", p, INDEX, () -> p.has(6, 0));
+        fails("12: operation -1", INDEX, () -> p.has(-1, 0));
+        fails("12: operation 6", INDEX, () -> p.has(6, 0));
     }
 
     private static void closed() {
@@ -529,10 +424,10 @@ public final class PromisesTest {
         due("13: LEAST", p.closed(2, 0), 1 + 2 + 4 + 16);
         due("13: nothing stays nothing", p.closed(0, 1), 0);
         due("13: the relation stays as it is", p.ofRelation(0, 1), 2 + 4 + 16);
-        fails("13: operation 3", p, INDEX, () -> p.closed(3, 0));
-        fails("13: relation 2", p, INDEX, () -> p.closed(0, 2));
-        fails("13: operation -1", p, INDEX, () -> p.closed(-1, 0));
-        fails("13: relation -1", p, INDEX, () -> p.closed(0, -1));
+        fails("13: operation 3", INDEX, () -> p.closed(3, 0));
+        fails("13: relation 2", INDEX, () -> p.closed(0, 2));
+        fails("13: operation -1", INDEX, () -> p.closed(-1, 0));
+        fails("13: relation -1", INDEX, () -> p.closed(0, -1));
         Polymorphium three = house(3);
         relation(three, 1, 0);
         three.make(Polymorphium.CYCLE);
@@ -586,7 +481,7 @@ public final class PromisesTest {
         operation(affine, 1, "00");
         due("15: x + y", affine.binary(), places | 1 | 1 << 6);
         Polymorphium three = house(3);
-        fails("15: with 3 values", three, STATE, three::binary);
+        fails("15: with 3 values", STATE, three::binary);
     }
 
     private static void kept() {
@@ -600,7 +495,7 @@ public final class PromisesTest {
         due("16: LEAST, CYCLE and one place", p.kept(1), 2);
         due("16: LEAST, CYCLE and two places", p.kept(2), 3);
         for (int places : new int[] {0, 3, -1, MIN, MAX}) {
-            fails("16: kept(" + places + ")", p, ARGUMENT, () -> p.kept(places));
+            fails("16: kept(" + places + ")", ARGUMENT, () -> p.kept(places));
         }
         Polymorphium three = house(3);
         due("16: all of one place with 3", three.kept(1), 8);
@@ -630,7 +525,7 @@ public final class PromisesTest {
         relation(p, 1);
         due("17: nothing is kept by all, but changes nothing", p.first(Polymorphium.CONSTANT), -1);
         for (int kind : new int[] {-1, 4, MIN, MAX}) {
-            fails("17: first(" + kind + ")", p, ARGUMENT, () -> p.first(kind));
+            fails("17: first(" + kind + ")", ARGUMENT, () -> p.first(kind));
         }
         Polymorphium three = house(3);
         due("17: the lowest semilattice with 3", three.first(Polymorphium.SEMILATTICE), 13203);
@@ -724,17 +619,17 @@ public final class PromisesTest {
     private static void aroundWrongInputs() {
         Polymorphium p = new Polymorphium();
         relation(p, 3, 0, 1, 2, 3);
-        fails("20: four tuples", p, STATE, () -> p.around(0));
-        fails("20: relation 1", p, INDEX, () -> p.around(1));
-        fails("20: relation -1", p, INDEX, () -> p.around(-1));
-        fails("20: relation 8", p, INDEX, () -> p.around(8));
+        fails("20: four tuples", STATE, () -> p.around(0));
+        fails("20: relation 1", INDEX, () -> p.around(1));
+        fails("20: relation -1", INDEX, () -> p.around(-1));
+        fails("20: relation 8", INDEX, () -> p.around(8));
         p.tuple(0, 3, false);
         due("20: three are not too many", p.around(0), 15 | 15 << 4);
         relation(p, 1, 0);
         due("20: three that have 0 on the last place", p.around(0), 15);
         Polymorphium three = house(3);
         relation(three, 1, 0, 1, 2);
-        fails("20: three tuples with 3", three, STATE, () -> three.around(0));
+        fails("20: three tuples with 3", STATE, () -> three.around(0));
         three.tuple(0, 1, false);
         due("20: two with 3", three.around(0), 7);
     }
@@ -750,7 +645,7 @@ public final class PromisesTest {
         due("21: eight", p.type(0x3030303030303030L, 8), 12);
         due("21: it goes on", p.fault(), 4);
         for (int n : new int[] {0, 9, -1, MIN, MAX}) {
-            fails("21: n " + n, p, ARGUMENT, () -> p.type(0x6161616161616161L, n));
+            fails("21: n " + n, ARGUMENT, () -> p.type(0x6161616161616161L, n));
         }
         for (char c = 0; c < 256; c++) {
             char sign = c;
@@ -758,16 +653,16 @@ public final class PromisesTest {
             Polymorphium one = new Polymorphium();
             due("21: character " + (int) c, outcome(() -> one.type(sign, 1)), can ? "1" : ARGUMENT);
         }
-        fails("21: the last of eight", p, ARGUMENT, () -> p.type(0x6761616161616161L, 8));
-        fails("21: a sign above 127", p, ARGUMENT, () -> p.type(0xe161616161616161L, 8));
+        fails("21: the last of eight", ARGUMENT, () -> p.type(0x6761616161616161L, 8));
+        fails("21: a sign above 127", ARGUMENT, () -> p.type(0xe161616161616161L, 8));
         Polymorphium full = new Polymorphium();
         for (int i = 0; i < 7; i++) {
             full.type(0x6161616161616161L, 8);
         }
-        fails("21: 61 characters", full, STATE, () -> full.type(0x6161616161L, 5));
-        fails("21: 61 with a wrong one", full, ARGUMENT, () -> full.type(0x6761616161L, 5));
+        fails("21: 61 characters", STATE, () -> full.type(0x6161616161L, 5));
+        fails("21: 61 with a wrong one", ARGUMENT, () -> full.type(0x6761616161L, 5));
         due("21: 60 characters", full.type(0x61616161L, 4), 60);
-        fails("21: one more", full, STATE, () -> full.type('a', 1));
+        fails("21: one more", STATE, () -> full.type('a', 1));
     }
 
     private static void wipe() {
@@ -839,16 +734,16 @@ public final class PromisesTest {
 
     private static void defineWrongInputs() {
         Polymorphium p = new Polymorphium();
-        fails("24: an empty tape", p, ARGUMENT, p::define);
+        fails("24: an empty tape", ARGUMENT, p::define);
         type(p, "a:a=");
-        fails("24: too short", p, ARGUMENT, p::define);
+        fails("24: too short", ARGUMENT, p::define);
         due("24: the tape stays then", p.wipe(), 4);
         fillRelations(p);
         type(p, "a:a=a");
-        fails("24: a ninth relation", p, STATE, p::define);
+        fails("24: a ninth relation", STATE, p::define);
         due("24: the tape stays then too", p.wipe(), 5);
         type(p, "a:a=a)");
-        fails("24: a ninth relation by no formula", p, ARGUMENT, p::define);
+        fails("24: a ninth relation by no formula", ARGUMENT, p::define);
     }
 
     // ---- Promises 25 to 31
@@ -857,7 +752,7 @@ public final class PromisesTest {
         Polymorphium p = new Polymorphium();
         relation(p, 1, 0);
         for (int many : new int[] {0, 7, -1, MIN, MAX}) {
-            fails("25: instance(" + many + ")", p, ARGUMENT, () -> p.instance(many));
+            fails("25: instance(" + many + ")", ARGUMENT, () -> p.instance(many));
         }
         due("25: none before", p.instance(6), 0);
         due("25: six variables", p.solutions(), 64);
@@ -905,28 +800,28 @@ public final class PromisesTest {
         relation(p, 3, 1);
         p.instance(3);
         for (int number : new int[] {3, -1, 8, MIN, MAX}) {
-            fails("26: relation " + number, p, INDEX, () -> p.constrain(number, -1, 0, 0));
+            fails("26: relation " + number, INDEX, () -> p.constrain(number, -1, 0, 0));
         }
         for (int variable : new int[] {3, -2, 6, MIN, MAX}) {
-            fails("26: first " + variable, p, INDEX, () -> p.constrain(2, variable, 0, 0));
-            fails("26: second " + variable, p, INDEX, () -> p.constrain(2, 0, variable, 0));
-            fails("26: third " + variable, p, INDEX, () -> p.constrain(2, 0, 0, variable));
-            fails("26: a variable of no place " + variable, p, INDEX, () -> p.constrain(0, -1, variable, 0));
+            fails("26: first " + variable, INDEX, () -> p.constrain(2, variable, 0, 0));
+            fails("26: second " + variable, INDEX, () -> p.constrain(2, 0, variable, 0));
+            fails("26: third " + variable, INDEX, () -> p.constrain(2, 0, 0, variable));
+            fails("26: a variable of no place " + variable, INDEX, () -> p.constrain(0, -1, variable, 0));
         }
-        fails("26: no first", p, ARGUMENT, () -> p.constrain(0, -1, -1, -1));
-        fails("26: a second of one", p, ARGUMENT, () -> p.constrain(0, 0, 0, -1));
-        fails("26: a third of one", p, ARGUMENT, () -> p.constrain(0, 0, -1, 0));
-        fails("26: no second", p, ARGUMENT, () -> p.constrain(1, 0, -1, -1));
-        fails("26: a third of two", p, ARGUMENT, () -> p.constrain(1, 0, 0, 0));
-        fails("26: a third for the second", p, ARGUMENT, () -> p.constrain(1, 0, -1, 0));
-        fails("26: no third", p, ARGUMENT, () -> p.constrain(2, 0, 0, -1));
+        fails("26: no first", ARGUMENT, () -> p.constrain(0, -1, -1, -1));
+        fails("26: a second of one", ARGUMENT, () -> p.constrain(0, 0, 0, -1));
+        fails("26: a third of one", ARGUMENT, () -> p.constrain(0, 0, -1, 0));
+        fails("26: no second", ARGUMENT, () -> p.constrain(1, 0, -1, -1));
+        fails("26: a third of two", ARGUMENT, () -> p.constrain(1, 0, 0, 0));
+        fails("26: a third for the second", ARGUMENT, () -> p.constrain(1, 0, -1, 0));
+        fails("26: no third", ARGUMENT, () -> p.constrain(2, 0, 0, -1));
         due("26: none of them stands", p.instance(3), 0);
         for (int i = 0; i < 16; i++) {
             p.constrain(0, 0, -1, -1);
         }
-        fails("26: a seventeenth", p, STATE, () -> p.constrain(0, 0, -1, -1));
-        fails("26: a seventeenth without variable", p, ARGUMENT, () -> p.constrain(0, -1, -1, -1));
-        fails("26: a seventeenth of no relation", p, INDEX, () -> p.constrain(3, 0, -1, -1));
+        fails("26: a seventeenth", STATE, () -> p.constrain(0, 0, -1, -1));
+        fails("26: a seventeenth without variable", ARGUMENT, () -> p.constrain(0, -1, -1, -1));
+        fails("26: a seventeenth of no relation", INDEX, () -> p.constrain(3, 0, -1, -1));
         due("26: sixteen stand", p.instance(1), 16);
     }
 
@@ -983,7 +878,7 @@ public final class PromisesTest {
         p.constrain(2, 1, -1, -1);
         due("30: a relation without tuples", p.left(1) + " " + p.left(0), "0 5");
         for (int variable : new int[] {2, -1, 6, MIN, MAX}) {
-            fails("30: variable " + variable, p, INDEX, () -> p.left(variable));
+            fails("30: variable " + variable, INDEX, () -> p.left(variable));
         }
         // Two unlike values cannot go round a ring of three, but each by itself is left.
         Polymorphium two = new Polymorphium();
@@ -1029,11 +924,11 @@ public final class PromisesTest {
         p.tuple(1, 0, false);
         due("31: no tuple can stand", p.pairs(0, 1), 0);
         for (int variable : new int[] {4, -1, 6, MIN, MAX}) {
-            fails("31: second " + variable, p, INDEX, () -> p.pairs(0, variable));
-            fails("31: first " + variable, p, INDEX, () -> p.pairs(variable, 0));
-            fails("31: both " + variable, p, INDEX, () -> p.pairs(variable, variable));
+            fails("31: second " + variable, INDEX, () -> p.pairs(0, variable));
+            fails("31: first " + variable, INDEX, () -> p.pairs(variable, 0));
+            fails("31: both " + variable, INDEX, () -> p.pairs(variable, variable));
         }
-        fails("31: the same", p, ARGUMENT, () -> p.pairs(2, 2));
+        fails("31: the same", ARGUMENT, () -> p.pairs(2, 2));
         Polymorphium two = new Polymorphium();
         relation(two, 3, 3, 5, 6);
         two.instance(2);
@@ -1044,7 +939,7 @@ public final class PromisesTest {
         due("31: two of three places", two.pairs(0, 2), 2 + 4 + 8);
         pairsOnALine();
         two.instance(1);
-        fails("31: there is one variable", two, INDEX, () -> two.pairs(0, 1));
-        fails("31: the same, of one", two, ARGUMENT, () -> two.pairs(0, 0));
+        fails("31: there is one variable", INDEX, () -> two.pairs(0, 1));
+        fails("31: the same, of one", ARGUMENT, () -> two.pairs(0, 0));
     }
 }

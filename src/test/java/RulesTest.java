@@ -33,7 +33,8 @@ public final class RulesTest {
                 check(!Pattern.compile(leftOut).matcher(bare).find(), i, "has " + leftOut);
             }
             classes += bare.matches(".*\\b(class|interface|enum|record) \\w+.*\\{") ? 1 : 0;
-            if (bare.matches("\\s+[\\w \\[\\]<>]+\\([^;]*") && !bare.matches(".*\\b(if|for|while|switch|return|else)\\b.*")) {
+            boolean isStatement = bare.matches(".*\\b(if|for|while|switch|return|else)\\b.*");
+            if (bare.matches("\\s+[\\w \\[\\]<>]+\\([^;]*") && !isStatement) {
                 methodFrom = i;
             }
             if (bare.matches(" {4,8}}") && methodFrom >= 0) {
