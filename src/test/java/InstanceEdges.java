@@ -182,7 +182,7 @@ final class InstanceEdges extends Checks {
             p.constrain(2, 3, 2, NONE);
             due("on both places", p.left(3) + " " + p.left(2), "3 3");
         }
-        // 0, 1 and 1, 0, and 1, 1 are left of any two variables, but no values of three.
+        // Each value of a variable goes with one of any other, but four variables cannot all be unlike.
         Polymorphium q = house(3);
         relation(q, 2, 1, 2, 3, 5, 6, 7);
         q.instance(4);
@@ -194,7 +194,7 @@ final class InstanceEdges extends Checks {
         due("what has no solution may be left", lefts(q, 4) + " " + q.solve(), "7777 -1");
     }
 
-    /** A chain takes a value away at each end of each link, and goes against the order of the constraints. */
+    /** What goes at one end of a line takes the next with it, in whatever order the constraints were told. */
     private static void valuesStepByStep() {
         for (boolean isFalling : new boolean[] {false, true}) {
             Polymorphium p = house(3);
