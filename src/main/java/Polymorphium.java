@@ -932,7 +932,8 @@ public final class Polymorphium {
         private int orderPoints(int from, boolean bound) {
             int filled = from;
             for (int point = points - 1; point >= 0; point--) {
-                if (bound == Integer.bitCount(at(allowed, point)) <= 1) {
+                boolean isBound = Integer.bitCount(at(allowed, point)) <= 1;
+                if (isBound == bound) {
                     put(order, filled, point);
                     filled++;
                 }
@@ -1496,8 +1497,10 @@ public final class Polymorphium {
                     int variable = variableOn(constraint, place);
                     int before = at(allowed, variable);
                     int after = before & supported(constraint, place);
-                    put(allowed, variable, after);
-                    isTaken |= after != before;
+                    if (after != before) {
+                        put(allowed, variable, after);
+                        isTaken = true;
+                    }
                 }
             }
             return isTaken;
@@ -1600,16 +1603,22 @@ public final class Polymorphium {
             for (int first = 0; first < instance.variableCount(); first++) {
                 for (int second = 0; second < instance.variableCount(); second++) {
                     for (int third = 0; third < instance.variableCount(); third++) {
-                        if (first != second && first != third && second != third) {
-                            int before = leftOf(first, second);
-                            int after = before & joined(leftOf(first, third), leftOf(third, second));
-                            setLeft(first, second, after);
-                            isTaken |= after != before;
+                        boolean areUnlike = first != second && first != third && second != third;
+                        if (areUnlike && takesAway(first, second, third)) {
+                            isTaken = true;
                         }
                     }
                 }
             }
             return isTaken;
+        }
+
+        /** Takes the pairs away that have no value of the third variable between them; tells whether there are any. */
+        private boolean takesAway(int first, int second, int third) {
+            int before = leftOf(first, second);
+            int after = before & joined(leftOf(first, third), leftOf(third, second));
+            setLeft(first, second, after);
+            return after != before;
         }
 
         /** The pairs that have a value between them: with the first of them in one set, with the second in another. */

@@ -2,6 +2,7 @@ import java.io.IOException;
 import java.nio.file.Files;
 import java.nio.file.Path;
 import java.util.List;
+import java.util.regex.Matcher;
 import java.util.regex.Pattern;
 
 /** What can be seen of ../shared/LANGUAGE.md in the text of the class alone. */
@@ -17,6 +18,8 @@ public final class RulesTest {
         "^\\s*(private )?static (?!final|\\w+(<\\w+>)?(\\[\\])* \\w+\\()",
     };
 
+    private static final Pattern INDEXED = Pattern.compile("(?<!new )\\b(\\w+)\\[\\w");
+
     private static int wrong = 0;
 
     public static void main(String[] args) throws IOException {
@@ -31,6 +34,11 @@ public final class RulesTest {
                     .replaceAll("//.*|^\\s*/?\\*.*", "");
             for (String leftOut : LEFT_OUT) {
                 check(!Pattern.compile(leftOut).matcher(bare).find(), i, "has " + leftOut);
+            }
+            Matcher indexed = INDEXED.matcher(bare);
+            while (indexed.find()) {
+                String bounds = (i > 0 ? lines.get(i - 1) : "") + bare;
+                check(bounds.contains(" < " + indexed.group(1) + ".length"), i, "uses an index without its bound");
             }
             classes += bare.matches(".*\\b(class|interface|enum|record) \\w+.*\\{") ? 1 : 0;
             boolean isStatement = bare.matches(".*\\b(if|for|while|switch|return|else)\\b.*");
